@@ -9,8 +9,8 @@ public final class PictureDesk {
     private static final int PNG = 0;
     private static final int GIF = 1;
     private static final int BMP = 2;
-    /** 2654435769 as an int; it also scatters well. */
-    private static final int PAINT_STEP = 0x9E3779B9;
+    /** 2654435769 as an int: paint's factor, and one that scatters well. */
+    private static final int GOLDEN = 0x9E3779B9;
     private static final int ADLER_MODULUS = 65521;
     /** The effect of the lowest four bits on the rest, for the polynomial 3988292384. */
     private static final int[] CRC_STEPS = {
@@ -149,7 +149,7 @@ public final class PictureDesk {
         Picture image = heldPicture(s);
         int total = image.total();
         for (int i = 0; i < total; i++) {
-            int colour = x * i * PAINT_STEP + y;
+            int colour = x * i * GOLDEN + y;
             image.points[i] = image.points[i] & ~mask | colour & mask;
         }
     }
@@ -355,7 +355,11 @@ public final class PictureDesk {
         /** A number of n bits, at most 16, the lowest first. */
         int bits(int n) {
             while (bitsHeld < n) {
-                bitStore |= next() << bitsHeld;
+                if (at >= stop) {
+                    throw new UnsupportedOperationException("the file ends too early");
+                }
+                bitStore |= (bytes[at] & 255) << bitsHeld;
+                at++;
                 bitsHeld += 8;
             }
             int value = bitStore & (1 << n) - 1;
@@ -613,7 +617,18 @@ public final class PictureDesk {
             boolean isLast = false;
             for (int blocks = 0; !isLast && blocks < MOST_BLOCKS; blocks++) {
                 isLast = in.bits(1) == 1;
-                takeBlock(in.bits(2));
+                int type = in.bits(2);
+                need(type <= 2);
+                if (type == 0) {
+                    takeStored();
+                    continue;
+                }
+                if (type == 1) {
+                    layFixedCodes();
+                } else {
+                    takeCodes();
+                }
+                takeCoded();
             }
             in.dropBits();
             need(isLast && made == due);
@@ -627,20 +642,6 @@ public final class PictureDesk {
             need(c % 16 == 8 && c / 16 <= 7);
             need((256 * c + f) % 31 == 0);
             need(f / 32 % 2 == 0);
-        }
-
-        private void takeBlock(int type) {
-            need(type <= 2);
-            if (type == 0) {
-                takeStored();
-                return;
-            }
-            if (type == 1) {
-                layFixedCodes();
-            } else {
-                takeCodes();
-            }
-            takeCoded();
         }
 
         private void takeStored() {
@@ -1220,7 +1221,7 @@ public final class PictureDesk {
 
         private int chainOf(int place) {
             int sum = (rows[place] & 255) << 16 | (rows[place + 1] & 255) << 8 | rows[place + 2] & 255;
-            return sum * PAINT_STEP >>> 20;
+            return sum * GOLDEN >>> 20;
         }
 
         private void remember(int place) {
@@ -1267,13 +1268,13 @@ public final class PictureDesk {
 
         private static void putLiteral(int meaning, Sink out) {
             if (meaning < 144) {
-                putCode(48 + meaning, 8, out);
+                out.putBits(turned(48 + meaning, 8), 8);
             } else if (meaning < 256) {
-                putCode(400 + meaning - 144, 9, out);
+                out.putBits(turned(400 + meaning - 144, 9), 9);
             } else if (meaning < 280) {
-                putCode(meaning - 256, 7, out);
+                out.putBits(turned(meaning - 256, 7), 7);
             } else {
-                putCode(192 + meaning - 280, 8, out);
+                out.putBits(turned(192 + meaning - 280, 8), 8);
             }
         }
 
@@ -1282,7 +1283,7 @@ public final class PictureDesk {
             putLiteral(Inflater.FIRST_LENGTH + lengthCode, out);
             out.putBits(copyLength - Inflater.LENGTH_BASE[lengthCode], Inflater.LENGTH_BITS[lengthCode]);
             int distanceCode = codeFor(copyDistance, Inflater.DISTANCE_BASE);
-            putCode(distanceCode, 5, out);
+            out.putBits(turned(distanceCode, 5), 5);
             out.putBits(copyDistance - Inflater.DISTANCE_BASE[distanceCode], Inflater.DISTANCE_BITS[distanceCode]);
         }
 
@@ -1295,13 +1296,13 @@ public final class PictureDesk {
             return code;
         }
 
-        /** CODES have their highest bit first. */
-        private static void putCode(int code, int n, Sink out) {
+        /** CODES have their highest bit first, but bits are put with the lowest first. */
+        private static int turned(int code, int n) {
             int turned = 0;
             for (int k = 0; k < n; k++) {
                 turned = turned << 1 | code >> k & 1;
             }
-            out.putBits(turned, n);
+            return turned;
         }
     }
 
@@ -1722,7 +1723,7 @@ public final class PictureDesk {
 
         /** The point of that place has this colour. */
         void lay(int place, int colour) {
-            int cell = colour * PAINT_STEP >>> 22;
+            int cell = colour * GOLDEN >>> 22;
             // There are four times as many cells as colours, so an empty one is always come to.
             for (int tries = 0; tries < CELLS && cells[cell] != 0; tries++) {
                 if (colours[cells[cell] - 1] == colour) {

@@ -1,0 +1,151 @@
+import java.util.ArrayList;
+import java.util.List;
+
+/** What the tests do again and again with a desk. */
+final class Desks {
+    static final Class<UnsupportedOperationException> BROKEN = UnsupportedOperationException.class;
+    static final Class<IndexOutOfBoundsException> TOO_LARGE = IndexOutOfBoundsException.class;
+
+    private Desks() {}
+
+    /** Lays the file on the empty tape. */
+    static void load(PictureDesk desk, byte[] file) {
+        for (int at = 0; at < file.length; at += 20) {
+            desk.feed(four(file, at), four(file, at + 4), four(file, at + 8), four(file, at + 12), four(file, at + 16));
+        }
+        desk.end(file.length);
+    }
+
+    private static int four(byte[] file, int at) {
+        int value = 0;
+        for (int k = 0; k < 4; k++) {
+            value = value << 8 | (at + k < file.length ? file[at + k] & 255 : 0);
+        }
+        return value;
+    }
+
+    static byte[] result(PictureDesk desk) {
+        byte[] bytes = new byte[desk.count(1)];
+        for (int at = 0; at < bytes.length; at += 8) {
+            long word = desk.word(at);
+            for (int k = 0; k < 8 && at + k < bytes.length; k++) {
+                bytes[at + k] = (byte) (word >> 56 - 8 * k);
+            }
+        }
+        return bytes;
+    }
+
+    /** The file is read as format, and its points, row by row, are these. */
+    static void reads(String what, byte[] file, int format, int width, int... points) {
+        PictureDesk desk = new PictureDesk();
+        load(desk, file);
+        Check.answers(what + ": read", format, () -> desk.read(1));
+        if (desk.count(2) == 0) {
+            return;
+        }
+        Check.due(what + ": tape behind read", desk.count(0), 0);
+        Check.due(what + ": width", desk.size(1, 0), width);
+        Check.due(what + ": height", desk.size(1, 1), points.length / width);
+        int h = 1;
+        for (int i = 0; i < points.length; i++) {
+            h = 31 * h + points[i];
+        }
+        if (desk.hash(1) == h) {
+            Check.due(what + ": hash", h, h);
+            return;
+        }
+        for (int i = 0; i < points.length; i++) {
+            Check.due(what + ": point " + i, desk.get(1, i % width, i / width), points[i]);
+        }
+    }
+
+    /** The file is refused with this exception; the slot keeps its image, and the tape is empty then. */
+    static void refuses(String what, Class<? extends RuntimeException> due, byte[] file) {
+        PictureDesk desk = new PictureDesk();
+        desk.make(2, 3, 2, 77);
+        load(desk, file);
+        Check.refuses(what, due, () -> desk.read(2));
+        Check.due(what + ": tape behind a refused read", desk.count(0), 0);
+        Check.due(what + ": slot behind a refused read", desk.get(2, 2, 1), 77);
+        Check.due(what + ": width behind a refused read", desk.size(2, 0), 3);
+    }
+
+    static byte[] bytes(int... values) {
+        byte[] made = new byte[values.length];
+        for (int k = 0; k < values.length; k++) {
+            made[k] = (byte) values[k];
+        }
+        return made;
+    }
+
+    static byte[] join(byte[]... pieces) {
+        int total = 0;
+        for (byte[] piece : pieces) {
+            total += piece.length;
+        }
+        byte[] made = new byte[total];
+        int at = 0;
+        for (byte[] piece : pieces) {
+            System.arraycopy(piece, 0, made, at, piece.length);
+            at += piece.length;
+        }
+        return made;
+    }
+
+    /** A copy with the bytes from at on set to these. */
+    static byte[] with(byte[] file, int at, int... values) {
+        byte[] made = file.clone();
+        for (int k = 0; k < values.length; k++) {
+            made[at + k] = (byte) values[k];
+        }
+        return made;
+    }
+
+    static byte[] little2(int value) {
+        return bytes(value, value >> 8);
+    }
+
+    static byte[] little4(int value) {
+        return bytes(value, value >> 8, value >> 16, value >> 24);
+    }
+
+    static byte[] big4(int value) {
+        return bytes(value >> 24, value >> 16, value >> 8, value);
+    }
+
+    /** Bits, the lowest of each byte first. */
+    static final class Bits {
+        private final List<Integer> bits = new ArrayList<>();
+
+        /** A number of n bits, the lowest first. */
+        Bits number(int value, int n) {
+            for (int k = 0; k < n; k++) {
+                bits.add(value >> k & 1);
+            }
+            return this;
+        }
+
+        /** A code, written out, in the order of its bits. */
+        Bits code(String zerosAndOnes) {
+            for (char c : zerosAndOnes.toCharArray()) {
+                bits.add(c - '0');
+            }
+            return this;
+        }
+
+        Bits toByte() {
+            while (bits.size() % 8 != 0) {
+                bits.add(0);
+            }
+            return this;
+        }
+
+        byte[] bytes() {
+            byte[] made = new byte[(bits.size() + 7) / 8];
+            for (int k = 0; k < bits.size(); k++) {
+                made[k / 8] |= (byte) (bits.get(k) << k % 8);
+            }
+            return made;
+        }
+    }
+}
