@@ -486,11 +486,20 @@ public final class PictureDesk {
 
         /** Sets four bytes that were written before what they tell was known. */
         void mendBig4(int from, int value) {
-            if (from < 0 || from > filled - 4) {
-                return;
-            }
             for (int k = 0; k < 4; k++) {
-                bytes[from + k] = (byte) (value >> 24 - 8 * k);
+                mendByte(from + k, value >> 24 - 8 * k);
+            }
+        }
+
+        void mendLittle4(int from, int value) {
+            for (int k = 0; k < 4; k++) {
+                mendByte(from + k, value >> 8 * k);
+            }
+        }
+
+        private void mendByte(int at, int value) {
+            if (at >= 0 && at < filled) {
+                bytes[at] = (byte) value;
             }
         }
 
@@ -1748,6 +1757,7 @@ public final class PictureDesk {
     private static final class BmpFiles {
         private static final int HEAD_BYTES = 54;
         private static final int INFO_BYTES = 40;
+        private static final int LENGTH_AT = 2;
         private static final int MOST_RUN = 255;
 
         private final Source in;
@@ -1915,15 +1925,16 @@ public final class PictureDesk {
         }
 
         void encodePlain(Picture image, Sink out) {
-            int rowBytes = (3 * image.width + 3) / 4 * 4;
-            putHead(image, HEAD_BYTES + rowBytes * image.height, HEAD_BYTES, 24, out);
+            int filling = (4 - 3 * image.width % 4) % 4;
+            putHead(image, HEAD_BYTES, 24, out);
             out.putZeros(20);
             for (int y = image.height - 1; y >= 0; y--) {
                 for (int x = 0; x < image.width; x++) {
                     putColour(image.points[y * image.width + x] >>> 8, out);
                 }
-                out.putZeros(rowBytes - 3 * image.width);
+                out.putZeros(filling);
             }
+            out.mendLittle4(LENGTH_AT, out.filled());
         }
 
         void encodeRuns(Picture image, Sink out) {
@@ -1932,8 +1943,7 @@ public final class PictureDesk {
                 table.lay(i, image.points[i] >>> 8);
             }
             int used = table.colours();
-            int from = HEAD_BYTES + 4 * used;
-            putHead(image, from + runBytes(image), from, 8, out);
+            putHead(image, HEAD_BYTES + 4 * used, 8, out);
             out.putZeros(12);
             out.putLittle4(used);
             out.putZeros(4);
@@ -1942,40 +1952,34 @@ public final class PictureDesk {
                 out.put(0);
             }
             for (int y = image.height - 1; y >= 0; y--) {
-                for (int x = 0; x < image.width; x += runLength(image, x, y)) {
-                    out.put(runLength(image, x, y));
-                    out.put(table.indexAt(y * image.width + x));
-                }
+                putRuns(y * image.width, image.width, out);
                 out.put(0);
                 out.put(y > 0 ? 0 : 1);
             }
+            out.mendLittle4(LENGTH_AT, out.filled());
         }
 
-        private int runBytes(Picture image) {
-            int pairs = image.height;
-            for (int y = 0; y < image.height; y++) {
-                for (int x = 0; x < image.width; x += runLength(image, x, y)) {
-                    pairs++;
+        private void putRuns(int rowAt, int width, Sink out) {
+            int index = table.indexAt(rowAt);
+            int n = 0;
+            for (int x = 0; x < width; x++) {
+                int next = table.indexAt(rowAt + x);
+                if (next != index || n == MOST_RUN) {
+                    out.put(n);
+                    out.put(index);
+                    index = next;
+                    n = 0;
                 }
-            }
-            return 2 * pairs;
-        }
-
-        /** 1 at least: how often the index at x, y comes in that row from there on. */
-        private int runLength(Picture image, int x, int y) {
-            int at = y * image.width + x;
-            int most = Math.min(MOST_RUN, image.width - x);
-            int n = 1;
-            while (n < most && table.indexAt(at + n) == table.indexAt(at)) {
                 n++;
             }
-            return n;
+            out.put(n);
+            out.put(index);
         }
 
-        private static void putHead(Picture image, int length, int from, int depth, Sink out) {
+        /** Up to the packing; the file's length is told when it is known. */
+        private static void putHead(Picture image, int from, int depth, Sink out) {
             out.putText("BM");
-            out.putLittle4(length);
-            out.putLittle4(0);
+            out.putZeros(8);
             out.putLittle4(from);
             out.putLittle4(INFO_BYTES);
             out.putLittle4(image.width);
