@@ -4,14 +4,37 @@ import java.util.function.LongSupplier;
 final class Check {
     private static int wrong = 0;
     private static int done = 0;
+    private static int sentences = 0;
+    private static String sentence = "";
+    private static int doneBefore = 0;
 
     private Check() {}
+
+    /** What is looked at from here on is asked by these words of the document. */
+    static void sentence(String words) {
+        closeSentence();
+        sentences++;
+        sentence = words;
+        doneBefore = done;
+    }
+
+    private static void closeSentence() {
+        if (!sentence.isEmpty() && done == doneBefore) {
+            tellWrong("nothing", "was looked at");
+        }
+        sentence = "";
+    }
+
+    private static void tellWrong(String what, String told) {
+        wrong++;
+        String before = sentence.isEmpty() ? "" : "\"" + sentence + "\": ";
+        System.out.println(before + what + " " + told);
+    }
 
     static void due(String what, long got, long due) {
         done++;
         if (got != due) {
-            wrong++;
-            System.out.println(what + " answered " + got + ", due is " + due);
+            tellWrong(what, "answered " + got + ", due is " + due);
         }
     }
 
@@ -22,8 +45,7 @@ final class Check {
             got = call.getAsLong();
         } catch (RuntimeException e) {
             done++;
-            wrong++;
-            System.out.println(what + " threw " + e + ", due is " + due);
+            tellWrong(what, "threw " + e + ", due is " + due);
             return;
         }
         due(what, got, due);
@@ -41,12 +63,13 @@ final class Check {
             }
             got = e.toString();
         }
-        wrong++;
-        System.out.println(what + " threw " + got + ", due is " + due.getSimpleName());
+        tellWrong(what, "threw " + got + ", due is " + due.getSimpleName());
     }
 
     static void finish() {
-        System.out.println(done + " answers looked at, " + wrong + " wrong");
+        closeSentence();
+        String of = sentences == 0 ? "" : " for " + sentences + " sentences";
+        System.out.println(done + " answers looked at" + of + ", " + wrong + " wrong");
         System.exit(wrong == 0 && done > 0 ? 0 : 1);
     }
 }

@@ -1,8 +1,11 @@
 import java.util.ArrayList;
+import java.util.Arrays;
 import java.util.List;
 
 /** What the tests do again and again with a desk. */
 final class Desks {
+    static final Class<IllegalArgumentException> RANGE = IllegalArgumentException.class;
+    static final Class<IllegalStateException> HOLDS_NONE = IllegalStateException.class;
     static final Class<UnsupportedOperationException> BROKEN = UnsupportedOperationException.class;
     static final Class<IndexOutOfBoundsException> TOO_LARGE = IndexOutOfBoundsException.class;
 
@@ -68,6 +71,61 @@ final class Desks {
         Check.due(what + ": tape behind a refused read", desk.count(0), 0);
         Check.due(what + ": slot behind a refused read", desk.get(2, 2, 1), 77);
         Check.due(what + ": width behind a refused read", desk.size(2, 0), 3);
+    }
+
+    /** A new desk whose slot 0 holds these points. */
+    static PictureDesk holding(int width, int... points) {
+        PictureDesk desk = new PictureDesk();
+        desk.make(0, width, points.length / width, 0);
+        for (int i = 0; i < points.length; i++) {
+            desk.set(0, i % width, i / width, points[i]);
+        }
+        return desk;
+    }
+
+    /** Slot 0 is written as just these bytes, and they can be read again. */
+    static void writes(String what, PictureDesk desk, int format, int mode, byte[] due) {
+        String name = what + ", format " + format + ", mode " + mode;
+        Check.answers(name + ": write", due.length, () -> desk.write(0, format, mode));
+        byte[] got = result(desk);
+        int same = 0;
+        while (same < got.length && same < due.length && got[same] == due[same]) {
+            same++;
+        }
+        Check.due(name + ": bytes that are as due", same, due.length);
+        Check.answers(name + ": again", due.length, desk::again);
+        Check.answers(name + ": read", format, () -> desk.read(3));
+    }
+
+    /** All that a desk tells without being changed. */
+    static String state(PictureDesk desk) {
+        StringBuilder told = new StringBuilder();
+        for (int what = 0; what < 3; what++) {
+            told.append(desk.count(what)).append(' ');
+        }
+        for (int s = 0; s < 4; s++) {
+            told.append(slot(desk, s)).append(' ');
+        }
+        return told.append(Arrays.hashCode(result(desk))).toString();
+    }
+
+    private static String slot(PictureDesk desk, int s) {
+        try {
+            return desk.size(s, 0) + " x " + desk.size(s, 1) + ": " + desk.hash(s);
+        } catch (IllegalStateException e) {
+            return "none";
+        }
+    }
+
+    /** The call throws this, and all that the desk tells stays. */
+    static void keeps(String what, PictureDesk desk, Class<? extends RuntimeException> due, Runnable call) {
+        String before = state(desk);
+        Check.refuses(what, due, call);
+        String behind = state(desk);
+        if (!behind.equals(before)) {
+            System.out.println(what + " left " + behind + " where " + before + " was");
+        }
+        Check.due(what + ": all is as before", behind.equals(before) ? 1 : 0, 1);
     }
 
     static byte[] bytes(int... values) {
