@@ -78,6 +78,15 @@ public final class LzwSentencesTest {
         // The next row's number is 8 then, so the end has four bits, the last ones of two bytes.
         byte[] four = new Desks.Bits().number(4, 3).number(1, 3).number(2, 3).number(3, 3).number(5, 4).bytes();
         Desks.reads("in four bits", Gifs.file(3, 1, Gifs.image(3, 1, 2, four)), 1, 3, Gifs.colours(1, 2, 3));
+        // Of one byte there are two codes, so the second one is the end, or there is none.
+        for (int v = 0; v < 256; v++) {
+            byte[] file = Gifs.file(1, 1, Gifs.image(1, 1, 2, Desks.bytes(v)));
+            if (v % 8 < 4 && v / 8 % 8 == 5) {
+                Desks.reads("one byte " + v, file, 1, 1, Gifs.COLOURS[v % 8]);
+            } else {
+                Desks.refuses("one byte " + v, Desks.BROKEN, file);
+            }
+        }
         Gifs.lzwBroken("alone", 1, 2, 5);
         Gifs.lzwBroken("behind a beginning alone", 1, 2, 4, 5);
     }

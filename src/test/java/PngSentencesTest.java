@@ -380,6 +380,11 @@ public final class PngSentencesTest {
             broken("a part between, the first of " + n, HEAD, first, text, rest);
             broken("in turn, the first of " + n, HEAD, rest, first, text, none);
         }
+        PictureDesk desk = new PictureDesk();
+        Desks.load(desk, FILE);
+        Check.answers("a file that has one", 0, () -> desk.read(0));
+        Desks.load(desk, Pngs.file(HEAD, Pngs.part("iDAT", ZLIB)));
+        Check.refuses("none, where that file had it", Desks.BROKEN, () -> desk.read(0));
         broken("the ZLIB twice", HEAD, DATA, DATA);
         broken("an empty one behind another part", HEAD, DATA, text, none);
     }

@@ -23,10 +23,12 @@ public final class PromiseSentencesTest {
         readFormat();
         readHolds();
         readTooLarge();
+        readAnswers();
         writeModes();
         writeResult();
         writeColours();
         writeLength();
+        writeAnswers();
         makeRange();
         makeTooLarge();
         makePoints();
@@ -347,6 +349,19 @@ public final class PromiseSentencesTest {
         Desks.refuses("BMP whose START is looked at later", Desks.TOO_LARGE, Bmps.head(54, 0, 128, 129, 8, 0, 0));
     }
 
+    private static void readAnswers() {
+        Check.sentence("Answers the format: 0 PNG, 1 GIF, 2 BMP.");
+        int[][] ways = {{0, 0}, {0, 5}, {1, 0}, {1, 1}, {2, 0}, {2, 1}};
+        PictureDesk desk = new PictureDesk();
+        for (int[] way : ways) {
+            desk.make(0, 3, 2, -1);
+            desk.write(0, way[0], way[1]);
+            desk.again();
+            Check.answers("read of format " + way[0] + ", mode " + way[1], way[0], () -> desk.read(1));
+            Check.due("what was read", desk.hash(1), desk.hash(0));
+        }
+    }
+
     private static void writeModes() {
         Check.sentence("format 0: mode 0 .. 5; 1, 2: mode 0, 1.");
         PictureDesk desk = Desks.holding(1, 255);
@@ -433,6 +448,21 @@ public final class PromiseSentencesTest {
         noisy.make(0, 2, 2, few[0]);
         noisy.set(0, 1, 1, few[3]);
         Desks.writes("PNG behind refused ones", noisy, 0, 0, PlainWriters.png(2, few, 0));
+    }
+
+    private static void writeAnswers() {
+        Check.sentence("Answers how many.");
+        PictureDesk desk = new PictureDesk();
+        for (int[] way : new int[][] {{0, 0}, {0, 5}, {1, 0}, {1, 1}, {2, 0}, {2, 1}}) {
+            desk.make(0, 20, 20, -1);
+            int longer = desk.write(0, way[0], way[1]);
+            Check.due("the result", desk.count(1), longer);
+            desk.make(0, 1, 1, -1);
+            int shorter = desk.write(0, way[0], way[1]);
+            Check.due("the result then", desk.count(1), shorter);
+            Check.due("a small image has less bytes", shorter < longer ? 1 : 0, 1);
+            Check.refuses("a byte of the longer one", Desks.TOO_LARGE, () -> desk.word(shorter));
+        }
     }
 
     private static void makeRange() {

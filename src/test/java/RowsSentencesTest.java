@@ -57,8 +57,9 @@ public final class RowsSentencesTest {
         Check.sentence("or with interlace 1 of its seven PASSES: from x, y 0 0, 4 0, 0 4, 2 0, 0 2, 1 0, 0 1,"
                 + " each 8 8, 8 8, 4 8, 4 4, 2 4, 2 2, 1 2 (those without POINTS have no ROWS).");
         int[][] passes = {{0, 0, 8, 8}, {4, 0, 8, 8}, {0, 4, 4, 8}, {2, 0, 4, 4}, {0, 2, 2, 4}, {1, 0, 2, 2}, {0, 1, 1, 2}};
-        for (int width = 1; width <= 10; width++) {
-            for (int height = 1; height <= 10; height++) {
+        int[] sizes = {1, 2, 3, 4, 5, 6, 7, 8, 9, 10, 12, 13, 16, 17, 21};
+        for (int width : sizes) {
+            for (int height : sizes) {
                 ByteArrayOutputStream rows = new ByteArrayOutputStream();
                 int[] due = new int[width * height];
                 int v = 0;

@@ -31,8 +31,16 @@ public final class TermsSentencesTest {
             PictureDesk desk = new PictureDesk();
             Check.refuses("make " + told, Desks.RANGE, () -> desk.make(0, size[0], size[1], 0));
         }
-        Desks.refuses("PNG of no rows", Desks.BROKEN, Pngs.file(Pngs.header(0, 1, 8, 0, 0), Pngs.data(Pngs.zlib())));
-        Desks.refuses("BMP of no rows", Desks.BROKEN, Bmps.plain(1, 0, Bmps.NONE));
+        byte[] nothing = Pngs.data(Pngs.zlib());
+        for (int[] size : sizes) {
+            for (int interlace = 0; interlace <= 1; interlace++) {
+                String told = size[0] + " x " + size[1] + " without rows";
+                byte[] png = Pngs.file(Pngs.header(size[0], size[1], 8, 0, interlace), nothing);
+                Desks.refuses("PNG of " + told, Desks.BROKEN, png);
+                Desks.refuses("BMP of " + told, Desks.BROKEN, Bmps.plain(size[0], size[1], Bmps.NONE));
+                Desks.refuses("BMP in runs of " + told, Desks.BROKEN, Bmps.runs(size[0], size[1], 0, 1));
+            }
+        }
         Desks.reads("PNG of 1 x 1", Pngs.file(Pngs.header(1, 1, 8, 0, 0), data), 0, 1, 255);
         Desks.reads("GIF of 1 x 1", Gifs.file(1, 1, Gifs.DOT), 1, 1, Gifs.COLOURS[1]);
         Desks.reads("BMP of 1 x 1", Bmps.plain(1, 1, new byte[4]), 2, 1, 255);

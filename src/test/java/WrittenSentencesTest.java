@@ -18,6 +18,7 @@ public final class WrittenSentencesTest {
         table();
         tableOrder();
         head();
+        transparentIndex();
         leastBits();
         fullTable();
         codeBits();
@@ -318,6 +319,29 @@ public final class WrittenSentencesTest {
             desk.write(0, GIF, 0);
             Check.due(colours[k] + " colours", desk.word(3) & 255, due[k]);
         }
+    }
+
+    private static void transparentIndex() {
+        Check.sentence("if there is TRANSPARENT: 33 249 4 1 0 0 index 0");
+        int[] points = colours(256);
+        for (int index : new int[] {0, 1, 128, 255}) {
+            int[] some = points.clone();
+            some[index] = 0x7F;
+            PictureDesk desk = Desks.holding(256, some);
+            desk.write(0, GIF, 0);
+            Check.due("index " + index, desk.word(13 + 768), 0x21F9040100000000L | index << 8);
+            Check.due("the byte behind it", desk.word(13 + 768 + 8) >>> 56, 44);
+            writesGif("index " + index, 256, 0, some);
+        }
+        PictureDesk none = Desks.holding(256, points);
+        none.write(0, GIF, 0);
+        Check.due("none", none.word(13 + 768) >>> 56, 44);
+        // The desk has written one with TRANSPARENT before.
+        none.set(0, 0, 0, 0);
+        none.write(0, GIF, 0);
+        none.set(0, 0, 0, points[0]);
+        none.write(0, GIF, 0);
+        Check.due("none any more", none.word(13 + 768) >>> 56, 44);
     }
 
     private static void leastBits() {

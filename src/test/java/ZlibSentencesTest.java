@@ -121,8 +121,13 @@ public final class ZlibSentencesTest {
                 .code(Deflates.fixedCode(5))), 0, 5);
         Deflates.broken("two last ones", Deflates.end(Deflates.block(Deflates.end(Deflates.fixed(0)), 1, 1)
                 .code(Deflates.fixedCode(5))), 0, 5);
-        Deflates.broken("of type 3", Deflates.end(Deflates.block(1, 3).code(Deflates.fixedCode(0))
+        Deflates.broken("of type 3, as fixed", Deflates.end(Deflates.block(1, 3).code(Deflates.fixedCode(0))
                 .code(Deflates.fixedCode(5))), 0, 5);
+        Deflates.broken("of type 3, as stored", Deflates.block(1, 3).toByte().number(2, 16).number(65533, 16)
+                .number(0x0500, 16), 0, 5);
+        Desks.Bits dynamic = Deflates.plainHead(LITERALS, Deflates.lengths(1)).code("10").code("110").code("0");
+        Deflates.gives("of type 2", dynamic, 0, 5);
+        Deflates.broken("of type 3, as 2", dynamic.turn(1), 0, 5);
         Deflates.broken("without its end", Deflates.fixed(0, 5), 0, 5);
         Deflates.broken("without its codes", Deflates.block(1, 2), 0, 5);
         Deflates.broken("no bits", new Desks.Bits(), 0, 5);
@@ -243,6 +248,12 @@ public final class ZlibSentencesTest {
         // 5 is the tenth; nine are told, so it has none and the codes have words left.
         int[] tenth = Deflates.lengths(19, 0, 1, 5, 1);
         Deflates.broken("one that is not told", Deflates.dynamicHead(257, 1, 9, tenth).number(0, 300), 0, 5);
+        // The block before has literals 13, 14 and 15, whose lengths are none of these.
+        int[] before = Deflates.lengths(257, 0, 2, 13, 3, 14, 4, 15, 4, 256, 1);
+        Desks.Bits two = Deflates.plainHead(before, Deflates.lengths(1)).turn(0).code("10").code("0");
+        two.append(Deflates.dynamicHead(257, 1, 18, REPEATS).code("10").code("1111").number(127, 7)
+                .code("1111").number(105, 7).code("10").code("01").code("00").code("11").code("0"));
+        Deflates.gives("18 of them, behind another block", two, 0, 255);
         int[] seven = Deflates.lengths(19, 0, 1, 1, 2, 2, 3, 3, 4, 16, 5, 17, 6, 18, 7, 15, 7);
         Deflates.gives("codes of 1 to 7 bits", Deflates.dynamicHead(257, 1, seven)
                 .code("110").code("1111111").number(127, 7).code("1111111").number(103, 7).code("0").code("0")
@@ -286,6 +297,9 @@ public final class ZlibSentencesTest {
             zeros(bits, 255 - 2 - 3 - more).code("10").code("10").code("00").code("0").code("10").code("11");
             Deflates.gives("16 and " + more, bits, 0, 255);
         }
+        // 16 behind one length alone: the first one is 0, and so are 1 .. 3; 4 and 5 have 2.
+        Deflates.gives("16 as the second", zeros(Deflates.dynamicHead(257, 1, REPEATS).code("00").code("110").number(0, 2)
+                .code("10").code("10"), 250).code("01").code("00").code("10").code("11").code("0"), 4, 5);
         Deflates.gives("16 over both rows", zeros(twos(258, 4), 254)
                 .code("10").code("110").number(2, 2).code("00").code("01").code("10"), 0, 1);
         Deflates.gives("18 over both rows", zeros(Deflates.dynamicHead(258, 30, REPEATS).code("10").code("10"), 254)
@@ -359,9 +373,9 @@ public final class ZlibSentencesTest {
             {0, 1, 256, 2}, {0, 1, 5, 15, 256, 2}, {0, 15, 5, 15, 256, 15}
         };
         for (int[] literals : wrong) {
-            Deflates.broken("literals " + Arrays.toString(literals),
-                    Deflates.plainHead(Deflates.lengths(257, literals), Deflates.lengths(1)).code("10").code("110")
-                            .code("0").number(0, 40), 0, 5);
+            Desks.Bits bits = Deflates.plainHead(Deflates.lengths(257, literals), Deflates.lengths(1));
+            Deflates.broken("literals " + Arrays.toString(literals), bits.code("10").code("110").code("0"), 0, 5);
+            Deflates.broken("literals " + Arrays.toString(literals) + " and zeros", bits.number(0, 40), 0, 5);
         }
         // Two words, both used: only the end and one byte.
         Deflates.gives("two literals", Deflates.plainHead(Deflates.lengths(257, 0, 1, 256, 1), Deflates.lengths(1))
@@ -369,11 +383,18 @@ public final class ZlibSentencesTest {
     }
 
     private static void brokenLengthCodes() {
-        int[][] wrong = {{1, 1}, {}, {0, 1, 1, 1, 2, 1}, {0, 1, 1, 2}, {0, 2, 1, 2, 2, 2}, {0, 7}, {0, 1, 1, 2, 2, 2, 3, 2}};
+        int[][] wrong = {{1, 1}, {}, {0, 1, 1, 1, 2, 1}, {0, 1, 1, 2}, {0, 7}, {0, 1, 1, 2, 2, 2, 3, 2}};
         for (int[] lengths : wrong) {
             Deflates.broken("codes for lengths " + Arrays.toString(lengths),
                     Deflates.dynamicHead(257, 1, Deflates.lengths(19, lengths)).number(0, 600), 0, 5);
         }
+        // 0 is 00, 1 is 01, 2 is 10: all that is needed, but 11 is left.
+        int[] three = Deflates.lengths(19, 0, 2, 1, 2, 2, 2);
+        Desks.Bits bits = Deflates.dynamicHead(257, 1, three);
+        for (int length : Deflates.lengths(258, 0, 2, 5, 2, 256, 1)) {
+            bits.code(Deflates.word(length, 2));
+        }
+        Deflates.broken("a word of those for lengths left", bits.code("10").code("11").code("0"), 0, 5);
     }
 
     private static void endHasCode() {
@@ -406,10 +427,13 @@ public final class ZlibSentencesTest {
         }
     }
 
-    /** Three bytes, zeros, and the three bytes again, so many back, in points of eight bytes. */
+    /**
+     * Three bytes, zeros, and the three bytes again, so many back, in points of eight bytes; then 255, whose code is all
+     * ones, so that a bit more or less in the distance is seen.
+     */
     private static void distance(int distance, int code, int extra, int more) {
         int before = 1;
-        while ((before + distance + 3) % 8 != 1) {
+        while ((before + distance + 4) % 8 != 1) {
             before++;
         }
         Desks.Bits bits = literalZeros(Deflates.block(1, 1), before);
@@ -417,12 +441,14 @@ public final class ZlibSentencesTest {
             bits.code(Deflates.fixedCode(v));
         }
         literalZeros(bits, distance - 3);
-        Deflates.end(bits.code(Deflates.fixedCode(257)).code(Deflates.word(code, 5)).number(extra, more));
-        byte[] row = new byte[before + distance + 3];
+        bits.code(Deflates.fixedCode(257)).code(Deflates.word(code, 5)).number(extra, more);
+        Deflates.end(bits.code(Deflates.fixedCode(255)));
+        byte[] row = new byte[before + distance + 4];
         for (int k = 0; k < 3; k++) {
             row[before + k] = (byte) (7 + k);
             row[before + distance + k] = (byte) (7 + k);
         }
+        row[row.length - 1] = (byte) 255;
         int[] due = new int[row.length / 8];
         for (int k = 0; k < due.length; k++) {
             int at = 1 + 8 * k;

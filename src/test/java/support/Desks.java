@@ -38,33 +38,61 @@ final class Desks {
         return bytes;
     }
 
-    /** The file is read as format, and its points, row by row, are these. */
+    /** A desk that has read a file of each format, and one that is broken, so that nothing in it is as at first. */
+    private static PictureDesk used() {
+        PictureDesk desk = new PictureDesk();
+        byte[] png = Pngs.file(Pngs.header(3, 3, 2, 3, 1), Pngs.part("PLTE", bytes(9, 8, 7, 6, 5, 4)),
+                Pngs.part("tRNS", (byte) 3), Pngs.data(Pngs.zlib(0, 0, 1, 64, 2, 16, 3, 64, 4, 0, 0, 84)));
+        byte[] gif = Gifs.file(2, 2, Gifs.extension(249, 4, 1, 0, 0, 1, 0), Gifs.image(2, 1, 2, Gifs.codes(2, 4, 1, 2, 5)),
+                Gifs.extension(249, 4, 1, 0, 0, 1, 0));
+        byte[] bmp = Bmps.file(2, -1, 8, 0, 0, new byte[1024], bytes(255, 254, 0, 0));
+        for (byte[] file : new byte[][] {png, gif, bmp}) {
+            load(desk, file);
+            desk.read(0);
+        }
+        load(desk, Arrays.copyOf(png, png.length - 1));
+        Check.refuses("a file that is cut off", BROKEN, () -> desk.read(0));
+        return desk;
+    }
+
+    /** The file is read as format, and its points, row by row, are these: by a new desk and by one that was used. */
     static void reads(String what, byte[] file, int format, int width, int... points) {
         PictureDesk desk = new PictureDesk();
+        readsOn(desk, what, file, format, width, points);
+        readsOn(desk, what + " again", file, format, width, points);
+        readsOn(used(), what + " on a used desk", file, format, width, points);
+    }
+
+    private static void readsOn(PictureDesk desk, String what, byte[] file, int format, int width, int... points) {
+        int held = desk.count(2);
         load(desk, file);
-        Check.answers(what + ": read", format, () -> desk.read(1));
-        if (desk.count(2) == 0) {
+        Check.answers(what + ": read", format, () -> desk.read(held));
+        if (desk.count(2) == held) {
             return;
         }
         Check.due(what + ": tape behind read", desk.count(0), 0);
-        Check.due(what + ": width", desk.size(1, 0), width);
-        Check.due(what + ": height", desk.size(1, 1), points.length / width);
+        Check.due(what + ": width", desk.size(held, 0), width);
+        Check.due(what + ": height", desk.size(held, 1), points.length / width);
         int h = 1;
         for (int i = 0; i < points.length; i++) {
             h = 31 * h + points[i];
         }
-        if (desk.hash(1) == h) {
+        if (desk.hash(held) == h) {
             Check.due(what + ": hash", h, h);
             return;
         }
         for (int i = 0; i < points.length; i++) {
-            Check.due(what + ": point " + i, desk.get(1, i % width, i / width), points[i]);
+            Check.due(what + ": point " + i, desk.get(held, i % width, i / width), points[i]);
         }
     }
 
-    /** The file is refused with this exception; the slot keeps its image, and the tape is empty then. */
+    /** The file is refused with this exception, by a new desk and by one that was used; slots keep what they hold. */
     static void refuses(String what, Class<? extends RuntimeException> due, byte[] file) {
-        PictureDesk desk = new PictureDesk();
+        refusesOn(new PictureDesk(), what, due, file);
+        refusesOn(used(), what + " on a used desk", due, file);
+    }
+
+    private static void refusesOn(PictureDesk desk, String what, Class<? extends RuntimeException> due, byte[] file) {
         desk.make(2, 3, 2, 77);
         load(desk, file);
         Check.refuses(what, due, () -> desk.read(2));
@@ -188,6 +216,17 @@ final class Desks {
             for (char c : zerosAndOnes.toCharArray()) {
                 bits.add(c - '0');
             }
+            return this;
+        }
+
+        /** With the bit of that place turned. */
+        Bits turn(int place) {
+            bits.set(place, 1 - bits.get(place));
+            return this;
+        }
+
+        Bits append(Bits more) {
+            bits.addAll(more.bits);
             return this;
         }
 
