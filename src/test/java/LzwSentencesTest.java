@@ -210,10 +210,31 @@ public final class LzwSentencesTest {
         Gifs.lzwBroken("one less by a row", 5, 2, 4, 1, 2, 6, 5);
         Gifs.lzwBroken("none", 1, 2, 4, 5);
         Gifs.lzwBroken("enough, and no end but more", 1, 2, 4, 1, 1, 1, 1, 1, 1, 1);
+        mostPoints();
         byte[] lzw = Gifs.codes(2, 4, 0, 1, 2, 3, 1, 0, 5);
         Desks.reads("three rows", Gifs.file(2, 3, Gifs.image(2, 3, 2, lzw)), 1, 2, Gifs.colours(0, 1, 2, 3, 1, 0));
         Desks.reads("two rows", Gifs.file(3, 2, Gifs.image(3, 2, 2, lzw)), 1, 3, Gifs.colours(0, 1, 2, 3, 1, 0));
         Desks.refuses("the IMAGE's size, not the image's", Desks.BROKEN, Gifs.file(3, 3, Gifs.image(3, 3, 2, lzw)));
+    }
+
+    /** As many as an IMAGE can have, and one more: there is no room for that one anywhere. */
+    private static void mostPoints() {
+        for (int flags : new int[] {0, 64}) {
+            for (int[] size : new int[][] {{16384, 1}, {1, 16384}, {128, 128}}) {
+                byte[] lzw = filled(2, 16383, 3, 5);
+                byte[] image = Gifs.image(0, 0, size[0], size[1], flags, Gifs.NONE, 2, lzw);
+                PictureDesk desk = new PictureDesk();
+                Desks.load(desk, Gifs.file(size[0], size[1], image));
+                Check.answers("16384, flags " + flags, 1, () -> desk.read(0));
+                Check.due("the last point", desk.get(0, size[0] - 1, size[1] - 1), Gifs.COLOURS[3]);
+                byte[] more = Gifs.image(0, 0, size[0], size[1], flags, Gifs.NONE, 2, filled(2, 16384, 3, 5));
+                Desks.refuses("16385, flags " + flags, Desks.BROKEN, Gifs.file(size[0], size[1], more));
+                byte[] byRow = Gifs.image(0, 0, size[0], size[1], flags, Gifs.NONE, 2, filled(2, 16383, 6, 5));
+                Desks.refuses("16385 by a row, flags " + flags, Desks.BROKEN, Gifs.file(size[0], size[1], byRow));
+                byte[] less = Gifs.image(0, 0, size[0], size[1], flags, Gifs.NONE, 2, filled(2, 16383, 5));
+                Desks.refuses("16383, flags " + flags, Desks.BROKEN, Gifs.file(size[0], size[1], less));
+            }
+        }
     }
 
     private static void interlace() {

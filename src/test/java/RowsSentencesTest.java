@@ -51,6 +51,43 @@ public final class RowsSentencesTest {
         Desks.refuses("in passes, a byte less", Desks.BROKEN, file(passes, 0, 1, 0, 2, 0, 3));
         Desks.refuses("in passes, a byte more", Desks.BROKEN, file(passes, 0, 1, 0, 2, 0, 3, 4, 0));
         Desks.refuses("no passes where there are some", Desks.BROKEN, file(passes, 0, 1, 2, 0, 3, 4));
+        mostRows();
+    }
+
+    /** The most that rows can have, 16384 times nine bytes, and more: there is no room for those anywhere. */
+    private static void mostRows() {
+        int n = 9 * 16384;
+        for (int interlace = 0; interlace <= 1; interlace++) {
+            byte[] head = Pngs.header(1, 16384, 16, 6, interlace);
+            byte[] just = Pngs.zlibRound(Deflates.end(Deflates.block(zeros(n), 1, 1)).bytes(), new byte[n]);
+            Desks.reads("the most", Pngs.file(head, Pngs.data(just)), 0, 1, new int[16384]);
+            Desks.Bits[] more = {
+                Deflates.end(Deflates.block(zeros(n), 1, 1).code(Deflates.fixedCode(0))),
+                Deflates.stored(zeros(n), 1, 1).number(0, 8),
+                Deflates.end(Deflates.block(zeros(n), 1, 1).code(Deflates.fixedCode(257)).code("00000")),
+                Deflates.end(Deflates.block(zeros(n), 1, 1).code(Deflates.fixedCode(285)).code("00000")),
+                Deflates.end(Deflates.block(zeros(n - 257), 1, 1).code(Deflates.fixedCode(285)).code("00000")),
+                Deflates.stored(zeros(n), 1, 20000).code("0".repeat(160000)),
+            };
+            int[] lengths = {1, 1, 3, 258, 1, 20000};
+            for (int k = 0; k < more.length; k++) {
+                byte[] zlib = Pngs.zlibRound(more[k].bytes(), new byte[n + lengths[k]]);
+                Desks.refuses(lengths[k] + " more than the most, way " + k, Desks.BROKEN, Pngs.file(head, Pngs.data(zlib)));
+            }
+        }
+    }
+
+    /** A fixed block, not the last one, of so many zeros. */
+    private static Desks.Bits zeros(int n) {
+        Desks.Bits bits = Deflates.block(0, 1).code(Deflates.fixedCode(0));
+        int left = n - 1;
+        for (; left >= 258; left -= 258) {
+            bits.code(Deflates.fixedCode(285)).code("00000");
+        }
+        for (; left > 0; left--) {
+            bits.code(Deflates.fixedCode(0));
+        }
+        return Deflates.end(bits);
     }
 
     private static void passes() {

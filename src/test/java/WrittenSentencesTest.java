@@ -20,6 +20,7 @@ public final class WrittenSentencesTest {
         head();
         transparentIndex();
         leastBits();
+        longestRow();
         fullTable();
         codeBits();
         subs();
@@ -293,6 +294,26 @@ public final class WrittenSentencesTest {
             points[n / 2] = 0;
             writesGif(n + " colours, one TRANSPARENT", n, 1, points);
         }
+        tablesOfOneDesk();
+    }
+
+    /** What a desk wrote before leaves nothing in what it writes then. */
+    private static void tablesOfOneDesk() {
+        int[] many = colours(256);
+        int[] few = {0x010101FF, 0x020202FF, 0x030303FF, 0x020202FF};
+        int[] clear = {0x010101FF, 0x02020200, 0x030303FF, 0x02020200};
+        PictureDesk desk = new PictureDesk();
+        int[][] images = {many, few, clear, many, clear, few};
+        for (int[] points : images) {
+            desk.make(0, points.length, 1, 0);
+            for (int i = 0; i < points.length; i++) {
+                desk.set(0, i, 0, points[i]);
+            }
+            for (int mode = 0; mode <= 1; mode++) {
+                Desks.writes("one desk, " + points.length, desk, GIF, mode, PlainWriters.gif(points.length, points, mode == 1));
+            }
+            Desks.writes("one desk, " + points.length, desk, BMP, 1, PlainWriters.runBmp(points.length, points));
+        }
     }
 
     private static void tableOrder() {
@@ -308,6 +329,13 @@ public final class WrittenSentencesTest {
                 Check.due("TRANSPARENT's index", desk.word(37), 0x21F9040100000200L);
             }
         }
+        // Any colours, each of which comes again and again.
+        Random random = new Random(15);
+        int[] table = random.ints(255).map(colour -> colour | 128).toArray();
+        int[] any = random.ints(2000, 0, 256).map(k -> k < 255 ? table[k] : k << 8).toArray();
+        writesGif("any colours", 100, 0, any);
+        writesGif("any colours", 40, 1, any);
+        writesRuns("any colours", 50, any);
     }
 
     private static void head() {
@@ -374,6 +402,29 @@ public final class WrittenSentencesTest {
             index = index + 2 * (i / 256) + 1 & 255;
         }
         return points;
+    }
+
+    private static void longestRow() {
+        Check.sentence("LZW: a beginning; each time the longest row, its code");
+        // 0 and each other index, and 0 0: these are 256 rows that begin with 0, of which the first, 0 1, comes again.
+        int[] pairs = new int[514];
+        for (int k = 1; k < 256; k++) {
+            pairs[2 * k - 1] = k;
+        }
+        pairs[512] = 1;
+        pairs[513] = 7;
+        int[] points = Arrays.stream(pairs).map(index -> index << 8 | 255).toArray();
+        writesGif("256 rows of one beginning", 514, 0, points);
+        for (int n = 1; n <= 60; n++) {
+            int[] same = new int[n];
+            Arrays.fill(same, -1);
+            writesGif("one colour, " + n, n, 0, same);
+        }
+        // Indices 0 0 0 0: 0, then row 6 of two, then the rest: 4 0 6 0 5 in 3 3 3 3 4 bits.
+        byte[] lzw = new Desks.Bits().number(4, 3).number(0, 3).number(6, 3).number(0, 3).number(5, 4).bytes();
+        Desks.writes("four alike", Desks.holding(4, -1, -1, -1, -1), GIF, 0, Desks.join("GIF89a".getBytes(),
+                Desks.bytes(4, 0, 1, 0, 128, 0, 0, 255, 255, 255, 0, 0, 0, 44, 0, 0, 0, 0, 4, 0, 1, 0, 0, 2, 2), lzw,
+                Desks.bytes(0, 59)));
     }
 
     private static void fullTable() {
