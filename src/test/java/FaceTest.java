@@ -6,33 +6,37 @@ import java.lang.reflect.Modifier;
 import java.util.Arrays;
 import java.util.Set;
 import java.util.TreeSet;
+import java.util.stream.Collectors;
 
 /** The class shows the document's face and nothing else. */
 public final class FaceTest {
+    private static final String RANGE = "IllegalArgumentException";
+    private static final String NONE_HELD = "IllegalStateException";
+    private static final String UNSUPPORTED = "UnsupportedOperationException";
+    private static final String BEYOND = "IndexOutOfBoundsException";
     private static final String[] FACE = {
-        "int again()",
-        "int count(int)",
-        "int end(int)",
-        "int feed(int, int, int, int, int)",
-        "int get(int, int, int)",
-        "int hash(int)",
-        "int read(int)",
-        "int set(int, int, int, int)",
-        "int size(int, int)",
-        "int write(int, int, int)",
-        "long word(int)",
-        "void make(int, int, int, int)",
-        "void paint(int, int, int, int)",
-        "void patch(int, int, int)",
+        "int again() throws ",
+        "int count(int) throws " + RANGE,
+        "int end(int) throws " + RANGE,
+        "int feed(int, int, int, int, int) throws " + BEYOND,
+        "int get(int, int, int) throws " + RANGE + ", " + NONE_HELD,
+        "int hash(int) throws " + RANGE + ", " + NONE_HELD,
+        "int read(int) throws " + RANGE + ", " + UNSUPPORTED + ", " + BEYOND,
+        "int set(int, int, int, int) throws " + RANGE + ", " + NONE_HELD,
+        "int size(int, int) throws " + RANGE + ", " + NONE_HELD,
+        "int write(int, int, int) throws " + RANGE + ", " + NONE_HELD + ", " + UNSUPPORTED + ", " + BEYOND,
+        "long word(int) throws " + BEYOND,
+        "void make(int, int, int, int) throws " + RANGE,
+        "void paint(int, int, int, int) throws " + RANGE + ", " + NONE_HELD,
+        "void patch(int, int, int) throws " + RANGE,
     };
 
     public static void main(String[] args) {
         Set<String> shown = new TreeSet<>();
         for (Method method : PictureDesk.class.getDeclaredMethods()) {
             if (isShown(method)) {
-                String taken = Arrays.toString(method.getParameterTypes());
                 shown.add(method.getReturnType() + " " + method.getName() + "("
-                        + taken.substring(1, taken.length() - 1) + ")");
+                        + names(method.getParameterTypes()) + ") throws " + names(method.getExceptionTypes()));
             }
         }
         Set<String> due = new TreeSet<>(Arrays.asList(FACE));
@@ -48,6 +52,10 @@ public final class FaceTest {
         Check.due("the constructor's parameters", constructors[0].getParameterCount(), 0);
         Check.due("the class is final", Modifier.isFinal(PictureDesk.class.getModifiers()) ? 1 : 0, 1);
         Check.finish();
+    }
+
+    private static String names(Class<?>[] types) {
+        return Arrays.stream(types).map(Class::getSimpleName).collect(Collectors.joining(", "));
     }
 
     private static boolean isShown(Member member) {
